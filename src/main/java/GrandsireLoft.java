@@ -51,7 +51,6 @@ public final class GrandsireLoft {
 
     private final Belfry belfry;
     private final Rota bandRota;
-    private int droppedCount;
 
     private Ringing ringing;
     private int patienceNow;
@@ -112,7 +111,7 @@ public final class GrandsireLoft {
         int before = called.changeOf(call, called.length - 1);
         called.setLastChange(call, places);
         rewriteTouches();
-        dropUnfit();
+        bandRota.dropUnfit(belfry.bellsOut());
         return before;
     }
 
@@ -240,7 +239,7 @@ public final class GrandsireLoft {
         }
         requireSilence();
         taken.takenOut = true;
-        return dropUnfit();
+        return bandRota.dropUnfit(belfry.bellsOut());
     }
 
     public boolean bringIn(int bell) throws IndexOutOfBoundsException, IllegalStateException {
@@ -320,7 +319,7 @@ public final class GrandsireLoft {
     }
 
     public int dropped() {
-        return droppedCount;
+        return bandRota.droppedCount;
     }
 
     // ---- ringing
@@ -359,10 +358,7 @@ public final class GrandsireLoft {
             throws IndexOutOfBoundsException, IllegalArgumentException, IllegalStateException {
         Bell pulled = bellNumbered(bell);
         requireRange(time, 0, MOST_TIME);
-        Ringing on = ringing;
-        if (on == null || !on.awaitsPull(bell)) {
-            throw new IllegalStateException("no pull of this bell is due");
-        }
+        Ringing on = ringingThatAwaits(bell);
         int error = time - on.nextDue(bell);
         if (!pulled.hasRoomForError(error) || !on.canWait(error, patienceNow)) {
             throw new IllegalStateException("the error is too great");
@@ -376,11 +372,7 @@ public final class GrandsireLoft {
 
     public int due(int bell) throws IndexOutOfBoundsException, IllegalStateException {
         requireIndex(bell, BELLS);
-        Ringing on = ringing;
-        if (on == null || !on.awaitsPull(bell)) {
-            throw new IllegalStateException("no pull of this bell is due");
-        }
-        return on.nextDue(bell);
+        return ringingThatAwaits(bell).nextDue(bell);
     }
 
     public int setPatience(int patience) throws IllegalArgumentException {
@@ -468,6 +460,14 @@ public final class GrandsireLoft {
         return bandRota.days[day];
     }
 
+    private Ringing ringingThatAwaits(int bell) {
+        Ringing on = ringing;
+        if (on == null || !on.awaitsPull(bell)) {
+            throw new IllegalStateException("no pull of this bell is due");
+        }
+        return on;
+    }
+
     private boolean isDraftOf(int stage) {
         for (int place = 0; place < changeCount; place++) {
             if (!Rows.isChange(changeDraft[place], stage)) {
@@ -489,12 +489,6 @@ public final class GrandsireLoft {
         for (int number = 0; number < touchList.size(); number++) {
             touchList.get(number).writeFrom(0, prover);
         }
-    }
-
-    private int dropUnfit() {
-        int count = bandRota.dropUnfit(belfry.bellsOut());
-        droppedCount += count;
-        return count;
     }
 
     private void doReadyRows() {
@@ -525,7 +519,7 @@ public final class GrandsireLoft {
         ringing = null;
         // pulls ahead of the rows that are done may have worn a bell out unnoticed so far
         belfry.noteWornOut();
-        dropUnfit();
+        bandRota.dropUnfit(belfry.bellsOut());
     }
 
     /** Rows and changes. A row is packed: the bell at the place p is in the three bits from 3 * p on. */
@@ -827,7 +821,7 @@ public final class GrandsireLoft {
         }
     }
 
-    /** Finds rows that were there before. What it knows of other rows need not be cleared: it looks whether it still holds. */
+    /** Finds rows that were there before. What it knows of other rows need not be cleared: it looks if it still holds. */
     private static final class Prover {
         private final int[] firstAt;
 
@@ -880,11 +874,8 @@ public final class GrandsireLoft {
             return found;
         }
 
-        /** Goes on to the next greater calls up to a lead, all PLAIN behind it; returns the first lead that is called otherwise. */
+        /** Goes on from a lead, all behind it being PLAIN, to the next greater calls; returns the first lead changed. */
         private int callNext(Method method, int lastLead) {
-            for (int lead = lastLead + 1; lead < trial.leadCount(); lead++) {
-                trial.leadCalls[lead] = PLAIN;
-            }
             for (int lead = lastLead; lead >= 0; lead--) {
                 int next = method.nextUnlikeCall(trial.leadCalls[lead]);
                 if (next != NONE) {
@@ -1052,6 +1043,7 @@ public final class GrandsireLoft {
         final int[] sizes;
         final Day[] days;
         int thisDay;
+        int droppedCount;
         private int turn;
         private int keptBand;
 
@@ -1120,6 +1112,7 @@ public final class GrandsireLoft {
             for (int day = thisDay; day <= LAST_DAY; day++) {
                 count += days[day].dropUnfit(bellsOut);
             }
+            droppedCount += count;
             return count;
         }
     }

@@ -20,6 +20,8 @@ public final class BellsTest {
         wornOutAheadOfTheRows();
         wornOutWhenTheRingingIsStopped();
         wornOutByTwoParts();
+        wornOutIsNoNewsToOtherTouches(ROPE);
+        wornOutIsNoNewsToOtherTouches(CLAPPER);
         CHECK.end();
     }
 
@@ -322,5 +324,25 @@ public final class BellsTest {
         CHECK.yes("isIn with both mended", loft.isIn(0));
         loft.mend(1, CLAPPER);
         CHECK.no("isIn with the clapper mended alone", loft.isIn(1));
+    }
+
+    /** A part of the bells 4 and 5 that is worn out already does not end a ringing on four. */
+    private static void wornOutIsNoNewsToOtherTouches(int part) {
+        GrandsireLoft loft = twoCourses();
+        Lofts.minor(loft);
+        Lofts.plainTouch(loft, 1, 5);
+        Lofts.plainTouch(loft, 1, 5);
+        for (int ringing = 0; ringing < 3; ringing++) {
+            CHECK.same("ring of a course on six", 60, Lofts.ringAlone(loft, 2 + ringing % 2));
+        }
+        renew(loft, part == ROPE ? CLAPPER : ROPE);
+        CHECK.same("ring until a part is worn out", 20, Lofts.ringAlone(loft, 3));
+        isInBelow(loft, "a course on six", 0, 6);
+        for (int bell = 0; bell < 4; bell++) {
+            loft.mend(bell, part);
+        }
+        CHECK.same("ring on four, the bells 4 and 5 being out", 24, Lofts.ringAlone(loft, 0));
+        CHECK.same("latest()", 0, loft.latest());
+        isInBelow(loft, "behind that", 4, 6);
     }
 }

@@ -242,6 +242,10 @@ public final class MethodsTest {
         CHECK.noArgument("changeAt(0, 3, 0)", () -> loft.changeAt(0, 3, 0));
         CHECK.noArgument("changeAt(0, -1, 12)", () -> loft.changeAt(0, -1, 12));
         Lofts.cross(loft);
+        Lofts.method(loft, 4, 12, 3, 9);
+        CHECK.same("changeAt of another first change", 12, loft.changeAt(2, GrandsireLoft.BOB, 0));
+        CHECK.same("changeAt of another second change", 3, loft.changeAt(2, GrandsireLoft.BOB, 1));
+        CHECK.same("head of 1023 1032 1302", 10, loft.head(2, GrandsireLoft.PLAIN));
         loft.setCall(1, GrandsireLoft.SINGLE, 9);
         CHECK.same("changeAt of a lead of one", 9, loft.changeAt(1, GrandsireLoft.SINGLE, 0));
         CHECK.same("changeAt of a lead of one, PLAIN", 0, loft.changeAt(1, GrandsireLoft.PLAIN, 0));
