@@ -370,6 +370,11 @@ final class RingingBounds {
         run.is(2, "latest");
         // the touches 1 and 3 today, and 3 on the next day
         run.is(3, "dropped");
+        BellBounds.renew(run, GrandsireLoft.CLAPPER);
+        run.does("plan", 0, 3);
+        run.is(10, "ring", 3, 0, 100);
+        run.is(5, "rung");
+        run.is(3, "latest");
     }
 
     private static void wornOutBehindTheLastRow() {
